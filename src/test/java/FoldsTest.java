@@ -72,6 +72,12 @@ public final class FoldsTest {
         CHECK.due("measures(0)", x.measures(0), FoldRule.BAD);
         CHECK.due("measures(181)", x.measures(181), FoldRule.BAD);
         CHECK.due("measures(-3)", x.measures(-3), FoldRule.BAD);
+        FoldRule longest = Check.told("k20;".repeat(9));
+        CHECK.due("measures(180) of the longest", longest.measures(180), 1);
+        longest.files(8, 1);
+        CHECK.due("measures(180), one filed", longest.measures(180), 0);
+        CHECK.due("measures(1), one filed", longest.measures(1), 1);
+        CHECK.due("measures(179), one filed", longest.measures(179), 1);
         FoldRule dense = Check.told("k1;k2;");
         CHECK.due("GAP of 1, 2, 3", dense.now(6), 4);
     }

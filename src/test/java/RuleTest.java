@@ -127,6 +127,8 @@ public final class RuleTest {
         fault("k1;k1;f1;", 7);
         fault("k1;k1;f00;", 7);
         fault("k1;k1;x 2;", 8);
+        fault("k1;k1;f;", 7);
+        fault("k1;k1;x ;", 8);
         fault("k1;k1;f0;f0;", 10);
         fault("k1;k1;f0;x0;", 10);
         fault("k1;k1;x0;f0;", 10);
@@ -222,6 +224,10 @@ public final class RuleTest {
         FoldRule stack = Check.told("k4;".repeat(9) + "f0;f1;f2;f3;f4;f5;f6;f7;");
         CHECK.due("SPAN of one pile", stack.now(0), 4);
         CHECK.due("STACK of one pile", stack.now(1), 9);
+        FoldRule longest = Check.told("k20;".repeat(9) + "x0;x1;x2;x3;x4;x5;x6;x7;");
+        CHECK.due("LEAST of the longest", longest.now(3), 180);
+        CHECK.due("LEAST of the longest: which", longest.now(4), 0);
+        CHECK.due("MOST of the longest", longest.now(5), 180);
         FoldRule stiff = Check.told("k4;k5;x0;");
         CHECK.due("LEAST of a stiff rule", stiff.now(3), 9);
         CHECK.due("GAP of 4 and 5 and 9", stiff.now(6), 1);
