@@ -2,12 +2,18 @@
 public final class Check {
     private int wrong;
     private int asked;
+    private String sentence = "";
+
+    /** The words of the document that the answers behind it are held against. */
+    public void sentence(String words) {
+        sentence = "[" + words + "] ";
+    }
 
     public void due(String call, long got, long want) {
         asked++;
         if (got != want) {
             wrong++;
-            System.out.println(call + " answered " + got + ", due is " + want);
+            System.out.println(sentence + call + " answered " + got + ", due is " + want);
         }
     }
 
@@ -15,7 +21,7 @@ public final class Check {
         asked++;
         if (!so) {
             wrong++;
-            System.out.println("does not hold: " + what);
+            System.out.println(sentence + "does not hold: " + what);
         }
     }
 
