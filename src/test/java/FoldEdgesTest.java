@@ -210,6 +210,17 @@ public final class FoldEdgesTest {
         CHECK.due("GAP of 1, 3, free", Check.told("k1;k3;").now(6), 5);
         CHECK.due("GAP of powers of 2", Check.told("k1;k2;k4;k8;k16;").now(6), 32);
         CHECK.due("GAP of the longest", Check.told(LONGEST).now(6), 1);
+        FoldRule filed = Check.told("k1;k2;");
+        CHECK.due("measures(3) ahead of files()", filed.measures(3), 1);
+        filed.files(1, 1);
+        CHECK.due("measures(3) behind files()", filed.measures(3), 0);
+        CHECK.due("GAP behind files()", filed.now(6), 3);
+        FoldRule longest = Check.told(LONGEST);
+        CHECK.due("measures(180) ahead of files()", longest.measures(180), 1);
+        longest.files(0, 1);
+        CHECK.due("measures(180) behind files()", longest.measures(180), 0);
+        longest.undo();
+        CHECK.due("measures(180) behind undo()", longest.measures(180), 1);
     }
 
     private static void oddsNumbers() {
@@ -361,7 +372,9 @@ public final class FoldEdgesTest {
         CHECK.due("ways(1) of nine times 1", Check.told("k1;".repeat(9)).ways(1), FoldRule.NONE);
         CHECK.due("ways(0) of the longest", Check.told(LONGEST).ways(0), 81);
         FoldRule last = Check.told("k1;".repeat(8) + "k20;");
+        CHECK.due("ways(1) of the last link", last.ways(1), 81);
         last.sees(0, 19);
+        CHECK.due("ways(1), asked ahead of ways(0)", last.ways(1), 89);
         CHECK.due("ways(0) of the last link by 9", last.ways(0), 1);
         CHECK.due("ways(1) of the last link by 9", last.ways(1), 89);
         FoldRule ten = Check.told("k20;");
@@ -422,6 +435,11 @@ public final class FoldEdgesTest {
         CHECK.due("next(), one is left", x.next(), FoldRule.NONE);
         x.sees(1, 3);
         CHECK.due("next(), none is left", x.next(), FoldRule.NONE);
+        CHECK.due("next() of the last two links", Check.told("k1;k1;k2;k2;").next(), 4);
+        FoldRule five = Check.told("k5;k3;k7;k2;k6;f1;x3;");
+        CHECK.due("next() of five links", five.next(), 1);
+        five.sees(2, 12);
+        CHECK.due("next() of five links, seen 12", five.next(), 4);
         CHECK.due("next() of the longest", Check.told(LONGEST).next(), 126);
         CHECK.due("next() of the longest, all stiff", Check.told(LONGEST + ALL_STIFF).next(), 0);
     }

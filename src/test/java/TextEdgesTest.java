@@ -257,6 +257,10 @@ public final class TextEdgesTest {
         fault("k1;k1;x 01;", 8);
         fault("k1;k1;f" + "0".repeat(80) + ";", 7);
         sound("k1;k1;f0;", 3);
+        // No NUMBER is not taken for 0.
+        fault("k;", 1);
+        fault("k1;k1;f;", 7);
+        fault("k1;k1;x ;", 8);
         fault("100", 0);
         fault("01", 0);
         fault("k1 100;", 3);
