@@ -20,7 +20,10 @@ public final class FaceTest {
     private static final Set<String> CONSTANTS = Set.of("BAD", "STATE", "FULL", "NONE", "NO");
     private static final String[] RULED_OUT = {
         "import ", "throw ", "try ", "catch ", "synchronized", "assert ", "->", "::", "Exact(", "package ",
+        "java.", "static {", "while (true)", "for (;;)", "hashCode", "toString", "double", "float", "System.",
     };
+    private static final int MAX_PARAMETERS = 7;
+    private static final int MAX_FIELDS = 20;
 
     public static void main(String[] args) throws IOException {
         face();
@@ -57,17 +60,39 @@ public final class FaceTest {
     }
 
     private static void nestedClasses() {
+        CHECK.holds("some twelve classes", FoldRule.class.getDeclaredClasses().length <= 11);
+        ownMembers(FoldRule.class);
+        for (Class<?> inside : FoldRule.class.getDeclaredClasses()) {
+            int how = inside.getModifiers();
+            CHECK.holds(inside + " is static", Modifier.isStatic(how));
+            CHECK.holds(inside + " is not for others", !Modifier.isPublic(how) && !Modifier.isProtected(how));
+            ownMembers(inside);
+        }
+    }
+
+    private static Set<String> namesOfTheFace() {
         Set<String> names = new TreeSet<>();
         for (String method : METHODS) {
             names.add(method.substring(method.indexOf(' ') + 1, method.indexOf('(')));
         }
-        CHECK.holds("some twelve classes", FoldRule.class.getDeclaredClasses().length <= 11);
-        for (Class<?> inside : FoldRule.class.getDeclaredClasses()) {
-            CHECK.holds(inside + " is static", Modifier.isStatic(inside.getModifiers()));
-            for (Method method : inside.getDeclaredMethods()) {
-                CHECK.holds(method + " bears no name of the face", !names.contains(method.getName()));
-            }
+        return names;
+    }
+
+    /** A class's methods beside the face, and its fields. */
+    private static void ownMembers(Class<?> owner) {
+        Set<String> names = namesOfTheFace();
+        for (Method method : owner.getDeclaredMethods()) {
+            CHECK.holds(method + " bears no name of the face",
+                    !names.contains(method.getName()) || METHODS.contains(told(method)));
+            CHECK.holds(method + " has seven parameters at most", method.getParameterCount() <= MAX_PARAMETERS);
         }
+        int fields = 0;
+        for (Field field : owner.getDeclaredFields()) {
+            boolean isStatic = Modifier.isStatic(field.getModifiers());
+            CHECK.holds(field + " is final if it is static", !isStatic || Modifier.isFinal(field.getModifiers()));
+            fields += isStatic ? 0 : 1;
+        }
+        CHECK.holds(owner + " has some twenty fields", fields <= MAX_FIELDS);
     }
 
     private static void constants() {
